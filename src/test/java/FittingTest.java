@@ -108,6 +108,7 @@ public final class FittingTest extends Sets {
         fit("ZERO to itself", UNFIT, INT, INT, LOAD, 0, ZERO, 1, LOAD, 0, RETURN, 0);
         fit("the fault lies behind ZERO", UNFIT, INT, INT, LOAD, 0, ZERO, 4, LOAD, 0, RETURN, 0, ADD, 0, RETURN, 0);
         fit("the fault lies before the target", UNFIT, INT, INT, LOAD, 0, ZERO, 4, ADD, 0, RETURN, 0, LOAD, 0, RETURN, 0);
+        fit("what one way stores, the other does not see", FITS, INT, INT, LOAD, 0, ZERO, 6, PUSH, 1, LOAD, 0, ADD, 0, RETURN, 0, NUL, 0, STORE, 0, PUSH, 1, RETURN, 0);
         fit("backwards through the code", FITS, -1, INT, JUMP, 3, RETURN, 0, JUMP, 1, PUSH, 1, JUMP, 2);
     }
 
