@@ -21,6 +21,20 @@ abstract class Sets {
         return method;
     }
 
+    /** A set as full as it can be, and no rule broken: 8 classes, 12 fields, 8 methods of 12 instructions. */
+    static TamedClassSet full() {
+        TamedClassSet x = new TamedClassSet();
+        for (int c = 0; c < 8; c++) x.addClass(c - 1, 0);
+        for (int f = 0; f < 12; f++) x.addField(f % 8, 0, f % 10);
+        for (int m = 0; m < 8; m++) {
+            x.addMethod(m, STATIC, m, INT, INT);
+            code(x, m, LOAD, 0);
+            for (int i = 1; i < 11; i++) code(x, m, LIBRARY, 0);
+            code(x, m, RETURN, 0);
+        }
+        return x;
+    }
+
     /** A set of one plain class. */
     static TamedClassSet plain() {
         TamedClassSet x = new TamedClassSet();
