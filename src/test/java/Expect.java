@@ -5,6 +5,10 @@ final class Expect {
     private int askedBefore = 0;
     private String sentence = "";
 
+    Expect() {
+        Deadline.set();
+    }
+
     /** The next answers are those of a sentence of the document. */
     void sentence(String words) {
         endSentence();

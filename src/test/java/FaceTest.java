@@ -18,6 +18,7 @@ public final class FaceTest {
     }
 
     private static void constants() {
+        expect.sentence("The constants");
         expect.due("BAD", TamedClassSet.BAD, -1);
         expect.due("FULL", TamedClassSet.FULL, -2);
         expect.due("SEALED", TamedClassSet.SEALED, -3);
@@ -29,6 +30,7 @@ public final class FaceTest {
     }
 
     private static void nothingButTheFace() {
+        expect.sentence("The public face");
         Class<?> face = TamedClassSet.class;
         expect.holds("public and final", Modifier.isPublic(face.getModifiers()) && Modifier.isFinal(face.getModifiers()));
         TreeSet<String> visible = new TreeSet<>();
@@ -51,6 +53,7 @@ public final class FaceTest {
     }
 
     private static void aNewObject() {
+        expect.sentence("1: No classes, fields, methods or handles; not sealed.");
         TamedClassSet x = new TamedClassSet();
         expect.due("runs()", x.runs(), 0);
         expect.due("steps()", x.steps(), TamedClassSet.BAD);

@@ -146,10 +146,13 @@ public final class FitEdgesTest extends Sets {
         expect.sentence("1 LOAD: -> the value of local a, which must be set");
         for (int local = 0; local < 3; local++) {
             for (int kind = 0; kind < 4; kind++) {
-                TamedClassSet x = set();
                 int set = kind == 0 ? 0 : kind == 3 ? 2 : 1;
-                method(x, 0, kind < 2 ? STATIC : 0, 0, kind % 2 == 0 ? -1 : INT, INT, LOAD, local, STORE, 2, PUSH, 1, RETURN, 0);
-                expect.due("LOAD " + local + " where " + set + " are set", x.check(), local < set ? FITS : UNFIT);
+                int[][] codes = {{LOAD, local, STORE, 2, PUSH, 1, RETURN, 0}, {LOAD, local, PUSH, 1, RETURN, 0}, {LOAD, local, JUMP, 1}};
+                for (int[] code : codes) {
+                    TamedClassSet x = set();
+                    method(x, 0, kind < 2 ? STATIC : 0, 0, kind % 2 == 0 ? -1 : INT, INT, code);
+                    expect.due("LOAD " + local + " where " + set + " are set", x.check(), local < set ? FITS : UNFIT);
+                }
             }
         }
     }
@@ -249,7 +252,12 @@ public final class FitEdgesTest extends Sets {
     private static void wrongMethods() {
         expect.sentence("Where a must be the number of .. a method .. any other number does not fit.");
         int[] wrong = {LEAST, -1, 1, 2, 8, MOST};
-        for (int a : wrong) fit("CALL " + a, UNFIT, -1, INT, CALL, a, RETURN, 0);
+        for (int a : wrong) {
+            fit("CALL " + a, UNFIT, -1, INT, CALL, a, RETURN, 0);
+            fit("CALL " + a + " with an argument", UNFIT, -1, INT, PUSH, 1, CALL, a, RETURN, 0);
+            fit("CALL " + a + " with a receiver", UNFIT, -1, INT, PUSH, 1, NUL, 0, CALL, a, PUSH, 1, RETURN, 0);
+            fit("CALL " + a + " with both", UNFIT, -1, INT, NUL, 0, PUSH, 1, CALL, a, PUSH, 1, RETURN, 0);
+        }
         fit("CALL of itself", FITS, -1, INT, CALL, 0, RETURN, 0);
         TamedClassSet x = set();
         for (int m = 0; m < 8; m++) method(x, 0, STATIC, m, -1, INT, CALL, 7 - m, RETURN, 0);
@@ -523,6 +531,15 @@ public final class FitEdgesTest extends Sets {
         x = new TamedClassSet();
         x.check();
         expect.due("a sealed set without methods", x.typesAt(0, 0), BAD);
+        x = full();
+        x.check();
+        x.clear();
+        x.addClass(-1, 0);
+        method(x, 0, STATIC, 0, INT, INT, LOAD, 0, RETURN, 0);
+        x.check();
+        expect.due("the first one now", x.typesAt(0, 0), 0x10000);
+        for (int i = 2; i < 12; i++) expect.due("one of the set before: typesAt(0, " + i + ")", x.typesAt(0, i), BAD);
+        for (int m = 1; m < 8; m++) expect.due("one of the set before: typesAt(" + m + ", 0)", x.typesAt(m, 0), BAD);
         x = full();
         x.check();
         expect.due("the twelfth of the eighth", x.typesAt(7, 11), 0x10001);

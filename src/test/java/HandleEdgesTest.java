@@ -86,6 +86,15 @@ public final class HandleEdgesTest extends Sets {
         x.addClass(-1, 0);
         method(x, 0, STATIC, 0, type(1), type(0), LOAD, 0, RETURN, 0);
         expect.due("no parents are left", x.check(), 4000);
+        int[] ops = {MAKE, NUL};
+        for (int op : ops) {
+            x = plain();
+            x.addClass(-1, 0);
+            x.clear();
+            x.addClass(-1, 0);
+            method(x, 0, STATIC, 0, -1, INT, op, 1, PUSH, 1, RETURN, 0);
+            expect.due("op " + op + " of a class of before", x.check(), 4000);
+        }
     }
 
     private static void clearedFields() {
@@ -105,6 +114,16 @@ public final class HandleEdgesTest extends Sets {
         sealed(x);
         expect.due("an object without fields", x.run(0, 0, 0), OBJECT);
         expect.due("it has no field 0", x.look(0, 0), REFUSED);
+        int[][] codes = {{NUL, 0, GET, 0, RETURN, 0}, {PUSH, 1, NUL, 0, PUSH, 1, PUT, 0, RETURN, 0}, {GETS, 1, RETURN, 0}, {PUSH, 1, PUSH, 1, PUTS, 1, RETURN, 0}};
+        for (int[] code : codes) {
+            x = plain();
+            x.addField(0, 0, INT);
+            x.addField(0, STATIC + FINAL, INT);
+            x.clear();
+            x.addClass(-1, 0);
+            method(x, 0, STATIC, 0, -1, INT, code);
+            expect.due("code with a field of before", x.check(), 4000);
+        }
     }
 
     private static void clearedMethods() {
@@ -126,6 +145,17 @@ public final class HandleEdgesTest extends Sets {
         x.clear();
         sealed(x);
         expect.due("no method to run", x.run(7, 0, 0), REFUSED);
+        x = plain();
+        for (int m = 0; m < 2; m++) method(x, 0, STATIC, m, -1, INT, PUSH, 1, RETURN, 0);
+        x.clear();
+        x.addClass(-1, 0);
+        method(x, 0, STATIC, 0, -1, INT, CALL, 1, RETURN, 0);
+        expect.due("CALL of a method of before", x.check(), 4000);
+        x.clear();
+        x.addClass(-1, 0);
+        x.addClass(0, 0);
+        method(x, 1, 0, 1, INT, INT, JUMP, 0);
+        expect.due("the name of a method of before", x.check(), 0);
     }
 
     private static void clearedHandles() {
@@ -364,7 +394,12 @@ public final class HandleEdgesTest extends Sets {
         method(x, 0, STATIC, 2, type(0), type(0), LOAD, 0, RETURN, 0);
         method(x, 0, STATIC, 3, CELL_TYPE, CELL_TYPE, LOAD, 0, RETURN, 0);
         sealed(x);
-        for (int h = 0; h < 16; h++) x.run(h % 2 == 0 ? 1 : 3, 0, 0);
+        for (int h = 0; h < 2; h++) {
+            expect.due("made", x.run(h == 0 ? 1 : 3, 0, 0), OBJECT + h);
+            expect.due("given again", x.run(4 + h, 0, h), OBJECT + h);
+            expect.due("in no second handle", x.held(h + 1), BAD);
+        }
+        for (int h = 2; h < 16; h++) x.run(h % 2 == 0 ? 1 : 3, 0, 0);
         for (int h = 15; h >= 0; h--) expect.due("what handle " + h + " holds", x.run(h % 2 == 0 ? 4 : 5, 0, h), OBJECT + h);
         expect.due("its own class", x.held(0), type(1));
     }
@@ -490,6 +525,13 @@ public final class HandleEdgesTest extends Sets {
         expect.due("the parent's field in the child", x.look(0, 1), 6);
         expect.due("the child's own field", x.look(0, 3), UNHELD);
         expect.due("the child's field in the parent", x.look(1, 3), REFUSED);
+        x = plain();
+        x.addField(0, 0, INT);
+        method(x, 0, STATIC, 0, INT, type(0), LOAD, 0, MAKE, 0, RETURN, 0);
+        sealed(x);
+        expect.due("an object with one field", x.run(0, 0, 8), OBJECT);
+        expect.due("the field", x.look(0, 0), 8);
+        for (int f = 1; f <= 12; f++) expect.due("no field " + f, x.look(0, f), REFUSED);
     }
 
     private static void typesHeld() {

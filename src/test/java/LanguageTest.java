@@ -24,7 +24,7 @@ public final class LanguageTest {
 
     private static void words(String code) {
         List<String> banned = List.of("package", "throw", "throws", "try", "catch", "finally", "synchronized", "assert", "native",
-                "volatile", "transient", "equals", "hashCode", "toString", "System", "Thread", "Random", "Object", "protected");
+                "volatile", "transient", "hashCode", "Thread", "Random", "Object", "protected");
         for (String word : banned) expect.holds("no " + word, !Pattern.compile("\\b" + word + "\\b").matcher(code).find());
         expect.holds("no lambda or arrow", !code.contains("->"));
         expect.holds("no method reference", !code.contains("::"));
@@ -32,12 +32,17 @@ public final class LanguageTest {
     }
 
     private static void library(String code) {
-        Set<String> used = new TreeSet<>();
-        Matcher m = Pattern.compile("\\b(Arrays|Math|Integer|Long)\\.(\\w+)").matcher(code);
-        while (m.find()) used.add(m.group());
-        expect.holds("the library used is " + used, Set.of("Arrays.fill", "Math.abs", "Integer.bitCount").containsAll(used));
-        Matcher imports = Pattern.compile("import [^;]*;").matcher(code);
-        while (imports.find()) expect.holds(imports.group(), imports.group().equals("import java.util.Arrays;"));
+        Set<String> listed = Set.of("Arrays.copyOf", "Arrays.copyOfRange", "Arrays.fill", "System.arraycopy");
+        Matcher arrays = Pattern.compile("\\b(Arrays|System)\\.\\w+").matcher(code);
+        while (arrays.find()) expect.holds("listed: " + arrays.group(), listed.contains(arrays.group()));
+        Matcher functions = Pattern.compile("\\b(Math|Integer|Long)\\.(\\w+)").matcher(code);
+        while (functions.find()) {
+            String name = functions.group(2);
+            expect.holds("listed: " + functions.group(), !name.endsWith("Exact") && !name.equals("random"));
+        }
+        Matcher imports = Pattern.compile("import ([^;]*);").matcher(code);
+        Set<String> importable = Set.of("java.util.Arrays", "java.util.ArrayList", "java.util.List", "java.util.Iterator");
+        while (imports.find()) expect.holds("listed: " + imports.group(1), importable.contains(imports.group(1)));
     }
 
     /** A method ends with a brace that stands as far in as its head. */
@@ -54,15 +59,20 @@ public final class LanguageTest {
 
     private static void classes() {
         Class<?>[] inside = TamedClassSet.class.getDeclaredClasses();
-        expect.holds("at most twelve classes", inside.length < 12);
+        expect.holds("at most some twelve classes", inside.length <= 12);
         Set<String> face = new TreeSet<>();
         for (var method : TamedClassSet.class.getDeclaredMethods()) {
             if (Modifier.isPublic(method.getModifiers())) face.add(method.getName());
         }
+        for (var method : TamedClassSet.class.getDeclaredMethods()) {
+            boolean isPrivate = Modifier.isPrivate(method.getModifiers());
+            expect.holds("no name of the face: " + method, !isPrivate || !face.contains(method.getName()));
+        }
         for (Class<?> c : inside) {
             expect.holds("static: " + c, Modifier.isStatic(c.getModifiers()));
             for (var method : c.getDeclaredMethods()) {
-                expect.holds("no name of the face: " + method, !face.contains(method.getName()));
+                boolean isPrivate = Modifier.isPrivate(method.getModifiers());
+                expect.holds("no name of the face: " + method, !isPrivate || !face.contains(method.getName()));
                 expect.holds("seven parameters: " + method, method.getParameterCount() <= 7);
             }
             int fields = 0;

@@ -14,6 +14,7 @@ public final class LongLifeTest extends Sets {
         theLastCallIsACheck();
         theLastCallAddsTheFirstClass();
         roundsOfClear();
+        clearThenAllRuns();
         allThatFortyRunsMake();
         laterCallsEnd();
         expect.end();
@@ -92,6 +93,27 @@ public final class LongLifeTest extends Sets {
         x = new TamedClassSet();
         for (int calls = 0; calls < CALLS - 1; calls++) x.clear();
         expect.due("behind 511 times clear", x.addClass(-1, 0), 0);
+    }
+
+    /** Forty runs of eight objects, with a clear before the first of them or between two. */
+    private static void clearThenAllRuns() {
+        expect.sentence(SENTENCE + ": forty runs that make eight objects, and clear");
+        for (int cleared = 0; cleared < 40; cleared += 3) {
+            TamedClassSet x = new TamedClassSet();
+            for (int n = 0; n < 40; n++) {
+                if (n == cleared) x.clear();
+                if (n == 0 || n == cleared) {
+                    x.addClass(-1, 0);
+                    x.addField(0, 0, type(0));
+                    method(x, 0, STATIC, 0, -1, type(0), NUL, 0, MAKE, 0, MAKE, 0, MAKE, 0, MAKE, 0, MAKE, 0, MAKE, 0, MAKE, 0, MAKE, 0, RETURN, 0);
+                    x.check();
+                }
+                int before = n < cleared ? n : n - cleared;
+                expect.due("run " + n + ", cleared before " + cleared, x.run(0, 0, 0), before < 16 ? OBJECT + before : UNHELD);
+            }
+            expect.due("runs()", x.runs(), 40);
+            expect.due("look(0, 0)", x.look(0, 0), UNHELD);
+        }
     }
 
     /** Every run makes eight nodes and puts them into the holder, so that all of them stay reachable. */

@@ -31,6 +31,7 @@ public final class ModelTest extends Sets {
     }
 
     public static void main(String[] args) {
+        Deadline.set();
         TreeMap<String, Integer> seen = new TreeMap<>();
         int wrongLives = 0;
         for (int seed = 0; seed < LIVES && wrongLives < 3; seed++) {

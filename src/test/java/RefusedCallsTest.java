@@ -166,13 +166,13 @@ public final class RefusedCallsTest extends Sets {
         RefusedCallsTest t = new RefusedCallsTest();
         for (int c = 0; c < 8; c++) t.add(ADD_CLASS, -1, 0);
         int classes = t.step();
-        for (int f = 0; f < 12; f++) t.add(ADD_FIELD, f / 2, 0, INT);
+        for (int f = 0; f < 12; f++) t.add(ADD_FIELD, f % 8, 0, INT);
         int fields = t.step();
         for (int m = 0; m < 8; m++) t.add(ADD_METHOD, m, STATIC, 0, INT, type(m));
         int methods = t.step();
         t.addCode(0, LOAD, 0, LIBRARY, 0, LIBRARY, 0, LIBRARY, 0, LIBRARY, 0, LIBRARY, 0, LIBRARY, 0, LIBRARY, 0, LIBRARY, 0, PUSH, 5, MAKE, 0, RETURN, 0);
         int code = t.step();
-        for (int m = 1; m < 8; m++) t.addCode(m, LOAD, 0, PUSH, 5 + m, MAKE, m, RETURN, 0);
+        for (int m = 1; m < 8; m++) t.addCode(m, LOAD, 0, LOAD, 0, MAKE, m, RETURN, 0);
         t.add(CHECK);
         t.add(CLEAR);
         int cleared = t.step();

@@ -9,6 +9,8 @@ public final class RunEdgesTest extends Sets {
     private static final Expect expect = new Expect();
 
     public static void main(String[] args) {
+        ownFieldsInOrder();
+        ownLocalsAndStack();
         addWraps();
         subWraps();
         absolute();
@@ -17,6 +19,7 @@ public final class RunEdgesTest extends Sets {
         ownFieldsMade();
         staticFieldsGot();
         same();
+        returned();
         chosen();
         sixtyFifth();
         nullFound();
@@ -40,6 +43,49 @@ public final class RunEdgesTest extends Sets {
         method(x, 0, STATIC, 0, INT, INT, code);
         sealed(x);
         return x;
+    }
+
+    /** Four fields of a line of eight classes, numbered against its order, with static ones and others' between them. */
+    private static void ownFieldsInOrder() {
+        expect.sentence("An object of a class has the fields, not static ones, of all classes of its line: its OWN fields, in the order of their numbers.");
+        TamedClassSet x = new TamedClassSet();
+        for (int c = 0; c < 7; c++) x.addClass(c - 1, 0);
+        x.addClass(-1, 0);
+        int[] classes = {7, 6, 0, 7, 4, 6, 3, 7, 2, 5, 7, 0};
+        int[] own = {1, 4, 8, 11};
+        for (int f = 0; f < 12; f++) {
+            boolean isOwn = f == 1 || f == 4 || f == 8 || f == 11;
+            x.addField(classes[f], isOwn || classes[f] == 7 ? 0 : STATIC + FINAL, INT);
+        }
+        method(x, 0, STATIC, 0, -1, type(6), PUSH, 10, PUSH, 20, PUSH, 30, PUSH, 40, MAKE, 6, RETURN, 0);
+        method(x, 0, STATIC, 1, -1, type(2), PUSH, 50, PUSH, 60, MAKE, 2, RETURN, 0);
+        method(x, 6, 0, 2, INT, INT, LOAD, 0, LOAD, 1, PUT, 8, LOAD, 0, GET, 11, LOAD, 0, GET, 4, SUB, 0, RETURN, 0);
+        sealed(x);
+        expect.due("an object of the seventh class", x.run(0, 0, 0), OBJECT);
+        expect.due("an object of the third class", x.run(1, 0, 0), OBJECT + 1);
+        for (int k = 0; k < 4; k++) expect.due("field " + own[k], x.look(0, own[k]), 10 * (k + 1));
+        expect.due("the third class's field 8", x.look(1, 8), 50);
+        expect.due("the third class's field 11", x.look(1, 11), 60);
+        expect.due("GET 11 and 4 behind PUT 8", x.run(2, 0, 77), 20);
+        int[] due = {10, 20, 77, 40};
+        for (int k = 0; k < 4; k++) expect.due("field " + own[k] + " behind PUT 8", x.look(0, own[k]), due[k]);
+        for (int f = 0; f < 12; f++) {
+            boolean isOwn = f == 1 || f == 4 || f == 8 || f == 11;
+            if (!isOwn) expect.due("field " + f + " is none of its own", x.look(0, f), REFUSED);
+        }
+    }
+
+    private static void ownLocalsAndStack() {
+        expect.sentence("While it runs, it has three LOCALS, 0 .. 2, and a STACK of at most 4 values.");
+        TamedClassSet x = plain();
+        method(x, 0, STATIC, 0, INT, INT, LOAD, 0, ZERO, 9, LOAD, 0, PUSH, 1, SUB, 0, CALL, 0, LOAD, 0, ADD, 0, RETURN, 0, LOAD, 0, RETURN, 0);
+        method(x, 0, STATIC, 1, INT, INT, PUSH, 1, STORE, 0, PUSH, 2, STORE, 1, PUSH, 3, STORE, 2, PUSH, 4, PUSH, 5, PUSH, 6, PUSH, 7, RETURN, 0);
+        method(x, 0, STATIC, 2, INT, INT, PUSH, 100, PUSH, 200, PUSH, 300, LOAD, 0, CALL, 1, ADD, 0, ADD, 0, ADD, 0, RETURN, 0);
+        method(x, 0, STATIC, 3, INT, INT, LOAD, 0, STORE, 1, LOAD, 0, STORE, 2, LOAD, 0, CALL, 1, LOAD, 1, ADD, 0, LOAD, 2, ADD, 0, RETURN, 0);
+        sealed(x);
+        expect.due("six methods under way, each with its own local 0", x.run(0, 0, 5), 15);
+        expect.due("four values here and four in the called one", x.run(2, 0, 0), 607);
+        expect.due("the called one changes no locals here", x.run(3, 0, 1000), 2007);
     }
 
     private static void addWraps() {
@@ -147,6 +193,23 @@ public final class RunEdgesTest extends Sets {
         expect.due("a null cell and null of a class", x.run(2, 0, -1), 1);
         expect.due("a cell and another with the same int", x.run(3, 0, 2), 0);
         expect.due("a null cell and a cell", x.run(3, 0, -1), 0);
+    }
+
+    private static void returned() {
+        expect.sentence("19 RETURN: a value that fits the result; the method ends with it");
+        TamedClassSet x = plain();
+        x.addClass(0, 0);
+        method(x, 0, STATIC, 0, -1, INT, PUSH, 1, PUSH, 2, PUSH, 3, PUSH, 4, RETURN, 0);
+        method(x, 0, STATIC, 1, -1, INT, PUSH, 50, CALL, 0, ADD, 0, RETURN, 0);
+        method(x, 0, STATIC, 2, INT, INT, LOAD, 0, ZERO, 4, PUSH, 10, RETURN, 0, PUSH, 20, RETURN, 0);
+        method(x, 0, STATIC, 3, -1, type(0), MAKE, 0, MAKE, 1, RETURN, 0);
+        sealed(x);
+        expect.due("the topmost of four values", x.run(0, 0, 0), 4);
+        expect.due("the caller finds that one alone", x.run(1, 0, 0), 54);
+        expect.due("what stands behind is not done", x.run(2, 0, 1), 10);
+        expect.due("steps()", x.steps(), 4);
+        expect.due("a child as result", x.run(3, 0, 0), OBJECT);
+        expect.due("it keeps its own class", x.held(0), type(1));
     }
 
     private static int nearest(int cls) {
