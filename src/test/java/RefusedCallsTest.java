@@ -11,6 +11,8 @@ public final class RefusedCallsTest extends Sets {
     private static final String[] NAMES = {"addClass", "addField", "addMethod", "emit", "check", "clear", "typesAt", "run", "look",
         "held", "runs", "steps"};
     private static final int LAST_CALL = 512;
+    private static final long BAD = TamedClassSet.BAD, FULL = TamedClassSet.FULL, SEALED = TamedClassSet.SEALED,
+            REFUSED = TamedClassSet.REFUSED;
     private static final Expect expect = new Expect();
 
     private final List<int[]> life = new ArrayList<>();
@@ -129,36 +131,36 @@ public final class RefusedCallsTest extends Sets {
         t.add(RUN, 0, 0, 0);
         t.ask(2, 2);
         t.play();
-        t.refuse(0, end, -1, ADD_CLASS, -2, 0);
-        t.refuse(0, end, -1, ADD_CLASS, 8, 0);
-        t.refuse(0, end, -1, ADD_CLASS, -1, 4);
-        t.refuse(0, end, -1, ADD_CLASS, -1, -1);
-        t.refuse(0, end, -1, ADD_FIELD, -1, 0, 0);
-        t.refuse(0, end, -1, ADD_FIELD, 8, 0, 0);
-        t.refuse(0, end, -1, ADD_FIELD, 0, 4, 0);
-        t.refuse(0, end, -1, ADD_FIELD, 0, -1, 0);
-        t.refuse(0, end, -1, ADD_FIELD, 0, 1, 10);
-        t.refuse(0, end, -1, ADD_FIELD, 0, 1, -1);
-        t.refuse(0, end, -1, ADD_METHOD, 8, 0, 0, 0, 0);
-        t.refuse(0, end, -1, ADD_METHOD, 0, 2, 5, 0, 0);
-        t.refuse(0, end, -1, ADD_METHOD, 0, 0, 8, 0, 0);
-        t.refuse(0, end, -1, ADD_METHOD, 0, 0, -1, 0, 0);
-        t.refuse(0, end, -1, ADD_METHOD, 0, 0, 5, 10, 0);
-        t.refuse(0, end, -1, ADD_METHOD, 0, 0, 5, -2, 0);
-        t.refuse(0, end, -1, ADD_METHOD, 0, 0, 5, 0, 10);
-        t.refuse(0, end, -1, ADD_METHOD, 0, 0, 5, 0, -1);
-        t.refuse(emitting, end, -1, ADD_METHOD, 0, 0, 0, 0, 0);
-        t.refuse(0, end, -1, EMIT, 8, 0, 0);
-        t.refuse(0, end, -1, EMIT, -1, 0, 0);
-        t.refuse(0, end, -1, EMIT, 0, 20, 0);
-        t.refuse(0, end, -1, EMIT, 0, -1, 0);
-        t.refuse(cleared, method, -1, EMIT, 0, 0, 0);
+        t.refuse(0, end, BAD, ADD_CLASS, -2, 0);
+        t.refuse(0, end, BAD, ADD_CLASS, 8, 0);
+        t.refuse(0, end, BAD, ADD_CLASS, -1, 4);
+        t.refuse(0, end, BAD, ADD_CLASS, -1, -1);
+        t.refuse(0, end, BAD, ADD_FIELD, -1, 0, 0);
+        t.refuse(0, end, BAD, ADD_FIELD, 8, 0, 0);
+        t.refuse(0, end, BAD, ADD_FIELD, 0, 4, 0);
+        t.refuse(0, end, BAD, ADD_FIELD, 0, -1, 0);
+        t.refuse(0, end, BAD, ADD_FIELD, 0, 1, 10);
+        t.refuse(0, end, BAD, ADD_FIELD, 0, 1, -1);
+        t.refuse(0, end, BAD, ADD_METHOD, 8, 0, 0, 0, 0);
+        t.refuse(0, end, BAD, ADD_METHOD, 0, 2, 5, 0, 0);
+        t.refuse(0, end, BAD, ADD_METHOD, 0, 0, 8, 0, 0);
+        t.refuse(0, end, BAD, ADD_METHOD, 0, 0, -1, 0, 0);
+        t.refuse(0, end, BAD, ADD_METHOD, 0, 0, 5, 10, 0);
+        t.refuse(0, end, BAD, ADD_METHOD, 0, 0, 5, -2, 0);
+        t.refuse(0, end, BAD, ADD_METHOD, 0, 0, 5, 0, 10);
+        t.refuse(0, end, BAD, ADD_METHOD, 0, 0, 5, 0, -1);
+        t.refuse(emitting, end, BAD, ADD_METHOD, 0, 0, 0, 0, 0);
+        t.refuse(0, end, BAD, EMIT, 8, 0, 0);
+        t.refuse(0, end, BAD, EMIT, -1, 0, 0);
+        t.refuse(0, end, BAD, EMIT, 0, 20, 0);
+        t.refuse(0, end, BAD, EMIT, 0, -1, 0);
+        t.refuse(cleared, method, BAD, EMIT, 0, 0, 0);
         t.refuse(built, built, 2000, CHECK);
         t.refuse(emitting, emitting + 1, 4000, CHECK);
-        t.refuse(0, end, -1, TYPES_AT, 0, 0);
-        t.refuse(0, end, TamedClassSet.REFUSED, RUN, 0, 0, 0);
-        t.refuseAlways(TamedClassSet.REFUSED, LOOK, 0, 0);
-        t.refuseAlways(-1, HELD, 0);
+        t.refuse(0, end, BAD, TYPES_AT, 0, 0);
+        t.refuse(0, end, REFUSED, RUN, 0, 0, 0);
+        t.refuseAlways(REFUSED, LOOK, 0, 0);
+        t.refuseAlways(BAD, HELD, 0);
     }
 
     private static void whileFull() {
@@ -183,14 +185,14 @@ public final class RefusedCallsTest extends Sets {
         t.add(RUN, 0, 0, 3);
         t.ask(2, 2);
         t.play();
-        t.refuse(classes, cleared - 2, -2, ADD_CLASS, -1, 3);
-        t.refuse(classes, cleared - 2, -2, ADD_CLASS, 7, 1);
-        t.refuse(fields, cleared - 2, -2, ADD_FIELD, 0, 1, 1);
-        t.refuse(fields, cleared - 2, -2, ADD_FIELD, 7, 0, 9);
-        t.refuse(methods, cleared - 2, -2, ADD_METHOD, 7, 0, 7, -1, 0);
-        t.refuse(methods, cleared - 2, -1, ADD_METHOD, 7, 0, 0, -1, 0);
-        t.refuse(code, cleared - 2, -2, EMIT, 0, RETURN, 0);
-        t.refuse(code, cleared - 2, -2, EMIT, 0, LIBRARY, 2);
+        t.refuse(classes, cleared - 2, FULL, ADD_CLASS, -1, 3);
+        t.refuse(classes, cleared - 2, FULL, ADD_CLASS, 7, 1);
+        t.refuse(fields, cleared - 2, FULL, ADD_FIELD, 0, 1, 1);
+        t.refuse(fields, cleared - 2, FULL, ADD_FIELD, 7, 0, 9);
+        t.refuse(methods, cleared - 2, FULL, ADD_METHOD, 7, 0, 7, -1, 0);
+        t.refuse(methods, cleared - 2, BAD, ADD_METHOD, 7, 0, 0, -1, 0);
+        t.refuse(code, cleared - 2, FULL, EMIT, 0, RETURN, 0);
+        t.refuse(code, cleared - 2, FULL, EMIT, 0, LIBRARY, 2);
         t.refuse(methods, code - 1, 4000, CHECK);
     }
 
@@ -229,22 +231,22 @@ public final class RefusedCallsTest extends Sets {
         t.ask(1, 1);
         t.add(ADD_CLASS, -1, 0);
         t.play();
-        t.refuse(sealed, end, -3, ADD_CLASS, -1, 1);
-        t.refuse(sealed, end, -3, ADD_CLASS, 0, 3);
-        t.refuse(sealed, end, -3, ADD_FIELD, 0, 0, 0);
-        t.refuse(sealed, end, -3, ADD_FIELD, 0, 1, 1);
-        t.refuse(sealed, end, -3, ADD_METHOD, 0, 0, 7, -1, 0);
-        t.refuse(sealed, end, -3, EMIT, 0, PUSH, 3);
-        t.refuse(sealed, end, -3, EMIT, 3, RETURN, 0);
-        t.refuse(sealed, end, -1, TYPES_AT, 4, 0);
-        t.refuse(sealed, end, -1, TYPES_AT, 0, 4);
+        t.refuse(sealed, end, SEALED, ADD_CLASS, -1, 1);
+        t.refuse(sealed, end, SEALED, ADD_CLASS, 0, 3);
+        t.refuse(sealed, end, SEALED, ADD_FIELD, 0, 0, 0);
+        t.refuse(sealed, end, SEALED, ADD_FIELD, 0, 1, 1);
+        t.refuse(sealed, end, SEALED, ADD_METHOD, 0, 0, 7, -1, 0);
+        t.refuse(sealed, end, SEALED, EMIT, 0, PUSH, 3);
+        t.refuse(sealed, end, SEALED, EMIT, 3, RETURN, 0);
+        t.refuse(sealed, end, BAD, TYPES_AT, 4, 0);
+        t.refuse(sealed, end, BAD, TYPES_AT, 0, 4);
         int[][] runs = {{-1, 0, 0}, {4, 0, 0}, {0, 0, -2}, {0, 0, 1}, {0, 0, 16}, {2, -1, -1}, {2, 0, -1}, {2, 3, -1}, {2, 16, -1}, {2, 1, 0}, {2, 1, 3}, {2, 1, 16}};
-        for (int[] r : runs) t.refuse(handles, end, TamedClassSet.REFUSED, RUN, r[0], r[1], r[2]);
-        t.refuse(sealed, end, TamedClassSet.REFUSED, LOOK, 3, 0);
-        t.refuse(handles, end, TamedClassSet.REFUSED, LOOK, 1, 2);
-        t.refuse(handles, end, TamedClassSet.REFUSED, LOOK, -1, 0);
-        t.refuse(sealed, end, -1, HELD, 3);
-        t.refuse(sealed, end, -1, HELD, 16);
+        for (int[] r : runs) t.refuse(handles, end, REFUSED, RUN, r[0], r[1], r[2]);
+        t.refuse(sealed, end, REFUSED, LOOK, 3, 0);
+        t.refuse(handles, end, REFUSED, LOOK, 1, 2);
+        t.refuse(handles, end, REFUSED, LOOK, -1, 0);
+        t.refuse(sealed, end, BAD, HELD, 3);
+        t.refuse(sealed, end, BAD, HELD, 16);
     }
 
     /** The forty-first run would change a cell that is held. */
@@ -263,8 +265,8 @@ public final class RefusedCallsTest extends Sets {
         t.add(CHECK);
         t.add(TYPES_AT, 1, 2);
         t.play();
-        t.refuse(spent, t.step(), TamedClassSet.REFUSED, RUN, 0, 0, 5);
-        t.refuse(spent, t.step(), TamedClassSet.REFUSED, RUN, 1, 0, 3);
-        t.refuse(spent, t.step(), TamedClassSet.REFUSED, RUN, 1, 0, -1);
+        t.refuse(spent, t.step(), REFUSED, RUN, 0, 0, 5);
+        t.refuse(spent, t.step(), REFUSED, RUN, 1, 0, 3);
+        t.refuse(spent, t.step(), REFUSED, RUN, 1, 0, -1);
     }
 }
