@@ -56,7 +56,7 @@ public final class BuildEdgesTest extends Sets {
     }
 
     private static void typeNumbers() {
-        expect.sentence("TYPES are numbers: 0 INT, 1 CELL, 2 + c class c.");
+        expect.sentence("TYPES are numbers: 0 INT, 1 CELL .. 2 + c class c.");
         TamedClassSet x = new TamedClassSet();
         for (int c = 0; c < 8; c++) {
             x.addClass(-1, 0);

@@ -217,7 +217,7 @@ public final class FitEdgesTest extends Sets {
     }
 
     private static void wrongFields() {
-        expect.sentence("Where a must be the number of .. a field that is not static (GET, PUT) .. any other number does not fit.");
+        expect.sentence("Where a must be the number of .. a field that is not static (7 to 9: GET, PUT) .. any other number does not fit.");
         int[] wrong = {LEAST, -1, 1, 4, 12, MOST};
         for (int a : wrong) {
             fit("GET " + a, UNFIT, type(0), INT, LOAD, 0, GET, a, RETURN, 0);
@@ -272,7 +272,7 @@ public final class FitEdgesTest extends Sets {
     }
 
     private static void numbersNotLookedAt() {
-        expect.sentence("INSTRUCTIONS (op and a number a)");
+        expect.sentence("INSTRUCTIONS (op and a number a; .. )");
         int[] any = {LEAST, -1, 0, 12, 99, MOST};
         for (int a : any) {
             fit("PUSH, ADD, SUB, RETURN " + a, FITS, -1, INT, PUSH, a, PUSH, a, ADD, a, PUSH, a, SUB, a, RETURN, a);

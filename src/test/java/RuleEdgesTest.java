@@ -125,7 +125,7 @@ public final class RuleEdgesTest extends Sets {
     }
 
     private static void ownFields() {
-        expect.sentence("2 every other field that an immutable class has among its own is final and of an immutable type (the field)");
+        expect.sentence("2 every other field that an immutable class has among its own is final and of an immutable type .. (the field)");
         int[][] fields = {{0, INT}, {0, 3}, {FINAL, INT}, {FINAL, 1}, {FINAL, 2}, {FINAL, 3}, {FINAL, 4}, {FINAL, 5}};
         for (int[] field : fields) {
             boolean keeps = field[0] == FINAL && (field[1] == INT || field[1] >= 3);
@@ -282,7 +282,7 @@ public final class RuleEdgesTest extends Sets {
     }
 
     private static void placesInCode() {
-        expect.sentence("(5 to 7: 16 times the method plus the instruction)");
+        expect.sentence("(5 to 7: 16 times the method plus the instruction; .. )");
         int[][] breaches = {{5, LIBRARY, 2}, {6, PUTS, 0}, {7, SAME, 0}};
         for (int[] breach : breaches) {
             for (int place = 2; place <= 10; place++) {

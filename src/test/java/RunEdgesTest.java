@@ -89,7 +89,7 @@ public final class RunEdgesTest extends Sets {
     }
 
     private static void addWraps() {
-        expect.sentence("3 ADD .. INT x, INT y -> INT x + y (they wrap)");
+        expect.sentence("3 ADD .. INT x, INT y -> INT x + y .. (they wrap)");
         for (int y : INTS) {
             TamedClassSet set = ofInt(LOAD, 0, PUSH, y, ADD, 0, RETURN, 0);
             for (int x : INTS) {
@@ -101,7 +101,7 @@ public final class RunEdgesTest extends Sets {
     }
 
     private static void subWraps() {
-        expect.sentence("4 SUB: INT x, INT y -> INT x - y (they wrap)");
+        expect.sentence("4 SUB: INT x, INT y -> .. x - y (they wrap)");
         for (int y : INTS) {
             TamedClassSet set = ofInt(LOAD, 0, PUSH, y, SUB, 0, RETURN, 0);
             for (int x : INTS) {
